@@ -229,10 +229,10 @@ public final class ClassGroup {
         principal = classAt(leastKey(one));
     }
 
-    /** D below 0: every reduced form is a name, and they are met in the order of the names. */
+    /** D below 0: every reduced form is a name. */
     private void nameDefinite() {
         for (int a = 1; 3 * a * a <= -d; a++) {
-            for (int b = firstLikeD(1 - a); b <= a; b += 2) {
+            for (int b = firstLikeD(0); b <= a; b += 2) {
                 int fourAC = b * b - d;
                 if (fourAC % (4 * a) == 0) {
                     keepDefinite(a, b, fourAC / (4 * a));
@@ -242,35 +242,46 @@ public final class ClassGroup {
     }
 
     private void keepDefinite(int a, int b, int c) {
-        if (a > c || (a == c && b < 0) || !isPrimitive(a, b, c)) {
+        if (a > c || !isPrimitive(a, b, c)) {
             return;
         }
         reducedForms++;
         addName(a, b);
+        if (b > 0 && b < a && a < c) {
+            reducedForms++;
+            addName(a, -b);
+        }
     }
 
     /**
-     * D above 0: a's sign alternates along a cycle, so that every name has an a below 0. The forms are
-     * met in the order of the names.
+     * D above 0: a's sign alternates along a cycle, so that every name has an a below 0. If one of two
+     * numbers that multiply to (D - b b) / 4 is fit for |a|, so is the other: the lesser ones tell all.
      */
     private void nameIndefinite() {
-        for (int size = root; size > 0; size--) {
-            int least = Math.max(1, Math.max(root + 1 - 2 * size, 2 * size - root));
-            for (int b = firstLikeD(least); b <= root; b += 2) {
-                int fourSizeC = d - b * b;
-                if (fourSizeC % (4 * size) == 0) {
-                    keepIndefinite(-size, b, fourSizeC / (4 * size));
+        for (int b = firstLikeD(1); b <= root; b += 2) {
+            int ac = (d - b * b) / 4;
+            for (int size = (root - b) / 2 + 1; size * size <= ac; size++) {
+                if (ac % size == 0) {
+                    keepIndefinite(size, b, ac / size);
                 }
             }
         }
     }
 
-    private void keepIndefinite(int a, int b, int c) {
-        if (!isPrimitive(a, b, c)) {
+    private void keepIndefinite(int lesser, int b, int greater) {
+        if (!isPrimitive(lesser, b, greater)) {
             return;
         }
-        // (-a, b, -c) is reduced too, and is not met by itself.
+        // (a, b, c) and (-a, b, -c) are both reduced, but only one of them can be a name.
         reducedForms += 2;
+        addNameIfLeast(-lesser, b, greater);
+        if (lesser < greater) {
+            reducedForms += 2;
+            addNameIfLeast(-greater, b, lesser);
+        }
+    }
+
+    private void addNameIfLeast(int a, int b, int c) {
         one.set(a, b, c);
         if (isLeastOfCycle(one)) {
             addName(a, b);
@@ -283,10 +294,16 @@ public final class ClassGroup {
     }
 
     private void addName(int a, int b) {
-        if (classes < MOST_CLASSES) {
-            names[classes] = a * KEYS_PER_A + b;
-            classes++;
+        if (classes >= MOST_CLASSES) {
+            return;
         }
+        int key = a * KEYS_PER_A + b;
+        int k = classes;
+        for (; k > 0 && names[k - 1] > key; k--) {
+            names[k] = names[k - 1];
+        }
+        names[k] = key;
+        classes++;
     }
 
     private void setToName(Form f, int k) {
