@@ -34,8 +34,8 @@ public final class ClassGroup {
     private int greatestOrder;
     private int generatorCount;
     private final int[] generators = new int[MOST_GENERATORS];
-    /** How many classes the generators before this one make. */
-    private final int[] strides = new int[MOST_GENERATORS];
+    /** How many classes the generators before this one make; behind the last one's, how many all make. */
+    private final int[] strides = new int[MOST_GENERATORS + 1];
     private final int[] orders = new int[MOST_CLASSES];
     /** The exponents of a class, each times its generator's stride, summed; -1 while it is not reached. */
     private final int[] codes = new int[MOST_CLASSES];
@@ -155,8 +155,8 @@ public final class ClassGroup {
             throw new IndexOutOfBoundsException("no such class or generator");
         }
         int stride = strides[i];
-        int among = orders[generators[i]];
-        return stride == 0 || among == 0 ? 0 : codes[k] / stride % among;
+        int next = strides[i + 1];
+        return stride == 0 || next == 0 ? 0 : codes[k] % next / stride;
     }
 
     private boolean isClass(int k) {
@@ -434,16 +434,15 @@ public final class ClassGroup {
             codes[principal] = 0;
         }
         generatorCount = 0;
-        int reached = 1;
-        for (int i = 0; i < MOST_GENERATORS && reached < classes; i++) {
-            int g = nextGenerator(reached);
+        strides[0] = 1;
+        for (int i = 0; i < MOST_GENERATORS && strides[i] < classes; i++) {
+            int g = nextGenerator(strides[i]);
             if (!isClass(g)) {
                 return;
             }
             generators[i] = g;
-            strides[i] = reached;
             generatorCount = i + 1;
-            reached = reachWith(g, reached);
+            strides[i + 1] = reachWith(g, strides[i]);
         }
     }
 

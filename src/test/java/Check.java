@@ -11,22 +11,31 @@ final class Check {
     private static final int MOST_PRINTED = 50;
 
     private static int compared = 0;
+    private static int comparedBefore = 0;
+    private static String sentence = "";
     private static final List<String> wrong = new ArrayList<>();
 
     private Check() {
     }
 
+    /** What follows looks at these words of the document; a wrong answer is printed with them. */
+    static void sentence(String words) {
+        closeSentence();
+        sentence = words;
+        comparedBefore = compared;
+    }
+
     static void due(String call, long want, long got) {
         compared++;
         if (got != want) {
-            wrong.add(call + " answered " + got + ", due is " + want);
+            tell(call + " answered " + got + ", due is " + want);
         }
     }
 
     static void holds(String what, boolean truth) {
         compared++;
         if (!truth) {
-            wrong.add(what + " does not hold");
+            tell(what + " does not hold");
         }
     }
 
@@ -34,10 +43,10 @@ final class Check {
     static void refused(String call, Class<? extends RuntimeException> want, Call tried) {
         compared++;
         try {
-            wrong.add(call + " answered " + tried.run() + ", due is " + want.getSimpleName());
+            tell(call + " answered " + tried.run() + ", due is " + want.getSimpleName());
         } catch (RuntimeException e) {
             if (e.getClass() != want) {
-                wrong.add(call + " threw " + e + ", due is " + want.getSimpleName());
+                tell(call + " threw " + e + ", due is " + want.getSimpleName());
             }
         }
     }
@@ -51,6 +60,7 @@ final class Check {
     }
 
     static void end() {
+        closeSentence();
         for (int i = 0; i < wrong.size() && i < MOST_PRINTED; i++) {
             System.out.println(wrong.get(i));
         }
@@ -58,5 +68,16 @@ final class Check {
         if (!wrong.isEmpty() || compared == 0) {
             System.exit(1);
         }
+    }
+
+    /** A sentence whose test compared nothing has no test. */
+    private static void closeSentence() {
+        if (!sentence.isEmpty() && compared == comparedBefore) {
+            tell("nothing was compared");
+        }
+    }
+
+    private static void tell(String what) {
+        wrong.add(sentence.isEmpty() ? what : "[" + sentence + "] " + what);
     }
 }

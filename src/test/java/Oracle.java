@@ -86,7 +86,21 @@ final class Oracle {
     }
 
     int product(int j, int k) {
-        return products.computeIfAbsent(List.of(j, k), key -> findProduct(names.get(j), names.get(k)));
+        return products.computeIfAbsent(List.of(j, k), key -> productOf(names.get(j), names.get(k)));
+    }
+
+    /** The class of the product of two forms of D, whether they are names or not. */
+    int productOf(long[] f, long[] g) {
+        long e = divides(f[0], g[0], (f[1] + g[1]) / 2);
+        long a = f[0] * g[0] / (e * e);
+        for (long b = 0; b < 2 * Math.abs(a); b++) {
+            if ((b - f[1]) % (2 * f[0] / e) == 0
+                    && (b - g[1]) % (2 * g[0] / e) == 0
+                    && ((f[1] + g[1]) / (2 * e) * b - (f[1] * g[1] + d) / (2 * e)) % (2 * a) == 0) {
+                return classOf(a, b, (b * b - d) / (4 * a));
+            }
+        }
+        throw new IllegalStateException("no b for " + Arrays.toString(f) + " and " + Arrays.toString(g));
     }
 
     int inverse(int k) {
@@ -113,6 +127,14 @@ final class Oracle {
             n++;
         }
         return n;
+    }
+
+    int greatestOrder() {
+        int greatest = 0;
+        for (int k = 0; k < classes(); k++) {
+            greatest = Math.max(greatest, order(k));
+        }
+        return greatest;
     }
 
     List<Integer> generators() {
@@ -241,18 +263,5 @@ final class Oracle {
         }
         double r = Math.sqrt((double) d);
         return 0 < b && b < r && r - b < 2 * Math.abs(a) && 2 * Math.abs(a) < r + b;
-    }
-
-    private int findProduct(long[] f, long[] g) {
-        long e = divides(f[0], g[0], (f[1] + g[1]) / 2);
-        long a = f[0] * g[0] / (e * e);
-        for (long b = 0; b < 2 * Math.abs(a); b++) {
-            if ((b - f[1]) % (2 * f[0] / e) == 0
-                    && (b - g[1]) % (2 * g[0] / e) == 0
-                    && ((f[1] + g[1]) / (2 * e) * b - (f[1] * g[1] + d) / (2 * e)) % (2 * a) == 0) {
-                return classOf(a, b, (b * b - d) / (4 * a));
-            }
-        }
-        throw new IllegalStateException("no b for " + Arrays.toString(f) + " and " + Arrays.toString(g));
     }
 }

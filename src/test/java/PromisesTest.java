@@ -1,4 +1,4 @@
-/** Each promise by itself: ordinary inputs, the edges that the document names, and wrong inputs. */
+/** Each promise by itself on ordinary inputs, the answers written down. Edges and wrong inputs: BoundsTest. */
 public final class PromisesTest {
     private static final int LEAST_INT = Integer.MIN_VALUE;
     private static final int GREATEST_INT = Integer.MAX_VALUE;
@@ -6,21 +6,15 @@ public final class PromisesTest {
     public static void main(String[] args) {
         newObject();
         take();
-        takeRefuses();
-        takeForgetsTheFormerGroup();
         count();
         name();
-        nameRefuses();
         classOf();
-        classOfAtTheBounds();
-        classOfRefuses();
         product();
         inverse();
         power();
         order();
         generator();
         exponent();
-        indicesOutOfBounds();
         Check.end();
     }
 
@@ -65,42 +59,6 @@ public final class PromisesTest {
         }
     }
 
-    private static void takeRefuses() {
-        int[] none = {
-            0, 1, 4, 9, 16, 1048576, 1046529, 2, 3, 6, 7, 10, -1, -2, -5, -6, -9, -10,
-            1048577, 1048580, 1048574, 1048575, -1048574, -1048577, -1048579, -1048580,
-            LEAST_INT, LEAST_INT + 1, GREATEST_INT, GREATEST_INT - 2, -1073741824, 1073741820
-        };
-        ClassGroup unasked = of(-84);
-        ClassGroup asked = of(-84);
-        dueCounts("promise 2, before", asked, -84, 4, 2, 0, 2, 4);
-        for (int d : none) {
-            Check.illegal("promise 2: take(" + d + ")", () -> unasked.take(d));
-            Check.illegal("promise 2: take(" + d + ")", () -> asked.take(d));
-        }
-        for (ClassGroup group : new ClassGroup[] {asked, unasked}) {
-            dueCounts("promise 2, nothing changed", group, -84, 4, 2, 0, 2, 4);
-            dueName(group, 3, 5, 4, 5);
-            Check.due("promise 2: product(1, 2)", 3, group.product(1, 2));
-            Check.due("promise 2: exponent(3, 1)", 1, group.exponent(3, 1));
-            Check.due("promise 2: classOf(3, 0, 7)", 2, group.classOf(3, 0, 7));
-        }
-    }
-
-    private static void takeForgetsTheFormerGroup() {
-        ClassGroup group = of(-3299);
-        dueCounts("promise 2, first D", group, -3299, 27, 2, 0, 9, 27);
-        group.take(-3);
-        dueCounts("promise 2, second D", group, -3, 1, 0, 0, 1, 1);
-        Check.outOfBounds("promise 2: generator(0)", () -> group.generator(0));
-        Check.outOfBounds("promise 2: name(1, 0)", () -> group.name(1, 0));
-        group.take(229);
-        Check.due("promise 2: order(0)", 3, group.order(0));
-        dueCounts("promise 2, third D", group, 229, 3, 1, 2, 3);
-        group.take(-420);
-        dueCounts("promise 2, fourth D", group, -420, 8, 3, 0, 2, 8);
-    }
-
     private static void count() {
         dueCounts("promise 3", of(-47), -47, 5, 1, 0, 5, 5);
         dueCounts("promise 3", of(-420), -420, 8, 3, 0, 2, 8);
@@ -137,17 +95,6 @@ public final class PromisesTest {
         dueName(group, 0, -979, 971, 27);
     }
 
-    private static void nameRefuses() {
-        ClassGroup group = of(-47);
-        for (int k : new int[] {-1, 5, 6, 1907, 1908, LEAST_INT, GREATEST_INT}) {
-            Check.outOfBounds("promise 4: name(" + k + ", 0)", () -> group.name(k, 0));
-        }
-        for (int what : new int[] {-1, 3, 4, LEAST_INT, GREATEST_INT}) {
-            Check.outOfBounds("promise 4: name(0, " + what + ")", () -> group.name(0, what));
-            Check.outOfBounds("promise 4: name(5, " + what + ")", () -> group.name(5, what));
-        }
-    }
-
     private static void classOf() {
         ClassGroup group = of(-47);
         Check.due("promise 5: classOf(2, 1, 6)", 2, group.classOf(2, 1, 6));
@@ -164,63 +111,6 @@ public final class PromisesTest {
         Check.due("promise 5: classOf(-3, 0, 1)", 0, group.classOf(-3, 0, 1));
     }
 
-    private static void classOfAtTheBounds() {
-        ClassGroup group = of(-262140);
-        int principal = group.count(3);
-        Check.due("promise 5: a at its bound", principal, group.classOf(1073741824, 65534, 1));
-        Check.due("promise 5: c at its bound", principal, group.classOf(1, -65534, 1073741824));
-        group.take(4632);
-        int k = group.classOf(536847742, 1073741824, 536894083);
-        Check.due("promise 5: b at both bounds", group.inverse(k),
-                group.classOf(536847742, -1073741824, 536894083));
-        group.take(-180728);
-        Check.holds("promise 5: b at its bound, D below 0",
-                group.classOf(536847743, 1073741824, 536894082) >= 0);
-        group.take(262148);
-        int negative = group.classOf(-1, 0, 65537);
-        Check.due("promise 5: a at its lower bound", negative, group.classOf(-1073741824, 65538, -1));
-        Check.due("promise 5: c at its lower bound", negative, group.classOf(-1, -65538, -1073741824));
-    }
-
-    private static void classOfRefuses() {
-        int[][] none = {
-            {2, 1, 7}, {-2, 1, -6}, {-1, 1, -12}, {0, 1, 12}, {1, 1, 0}, {0, 0, 0}, {1, 0, 12}, {1, 2, 12},
-            {LEAST_INT, 1, 12}, {1, LEAST_INT, 12}, {1, 1, LEAST_INT},
-            {GREATEST_INT, 1, 12}, {1, GREATEST_INT, 12}, {1, 1, GREATEST_INT}
-        };
-        for (int[] f : none) {
-            refusesForm(-47, f);
-        }
-        refusesForm(-48, 2, 0, 6);
-        refusesForm(-48, 4, 4, 4);
-        refusesForm(48, 2, 4, -4);
-        refusesForm(12, 1, 0, 3);
-        refusesForm(5, 0, 1, 5);
-        // 4 a c is 4 in 32 bits.
-        refusesForm(-4, 3, 0, 715827883);
-        refusesForItsBounds(-4, 1, 65536, 1073741825);
-        refusesForItsBounds(-4, 1073741825, 65536, 1);
-        refusesForItsBounds(-4, 1073741825, -65536, 1);
-        refusesForItsBounds(-180732, 536847744, 1073741826, 536894083);
-        refusesForItsBounds(-180732, 536847744, -1073741826, 536894083);
-        refusesForItsBounds(12, 1, 65538, 1073807358);
-        refusesForItsBounds(524300, -1073741825, 65540, -1);
-        refusesForItsBounds(524300, -1, 65540, -1073741825);
-    }
-
-    /** A form of D but for a coefficient outside its bounds. */
-    private static void refusesForItsBounds(int d, int... f) {
-        Check.due("D of a form outside the bounds", d, (long) f[1] * f[1] - 4L * f[0] * f[2]);
-        refusesForm(d, f);
-    }
-
-    private static void refusesForm(int d, int... f) {
-        ClassGroup group = of(d);
-        Check.illegal(d + ": classOf(" + f[0] + ", " + f[1] + ", " + f[2] + ")",
-                () -> group.classOf(f[0], f[1], f[2]));
-        Check.due("promise 5: D after it", d, group.count(0));
-    }
-
     private static void product() {
         ClassGroup group = of(-47);
         int[][] table = {{0, 1, 2, 3, 4}, {1, 4, 0, 2, 3}, {2, 0, 3, 4, 1}, {3, 2, 4, 1, 0}, {4, 3, 1, 0, 2}};
@@ -229,7 +119,7 @@ public final class PromisesTest {
                 Check.due("promise 6: product(" + j + ", " + k + ")", table[j][k], group.product(j, k));
             }
         }
-        // e is above 1 here: (2, 2, 11) by itself, and (5, 4, 5) by itself.
+        // e is above 1 here: (2, 2, 11) by itself, and (3, 0, 7) by itself.
         group.take(-84);
         for (int k = 0; k < 4; k++) {
             Check.due("promise 6: product(" + k + ", " + k + ")", 0, group.product(k, k));
@@ -327,20 +217,5 @@ public final class PromisesTest {
             Check.outOfBounds("promise 11: exponent(1, " + i + ")", () -> group.exponent(1, i));
             Check.outOfBounds("promise 11: exponent(4, " + i + ")", () -> group.exponent(4, i));
         }
-    }
-
-    private static void indicesOutOfBounds() {
-        ClassGroup group = of(-47);
-        for (int k : new int[] {-1, 5, 6, 1907, 1908, 4096, LEAST_INT, GREATEST_INT}) {
-            Check.outOfBounds("promise 6: product(" + k + ", 0)", () -> group.product(k, 0));
-            Check.outOfBounds("promise 6: product(0, " + k + ")", () -> group.product(0, k));
-            Check.outOfBounds("promise 6: product(" + k + ", " + k + ")", () -> group.product(k, k));
-            Check.outOfBounds("promise 7: inverse(" + k + ")", () -> group.inverse(k));
-            Check.outOfBounds("promise 8: power(" + k + ", 0)", () -> group.power(k, 0));
-            Check.outOfBounds("promise 8: power(" + k + ", -1)", () -> group.power(k, -1));
-            Check.outOfBounds("promise 9: order(" + k + ")", () -> group.order(k));
-            Check.outOfBounds("promise 11: exponent(" + k + ", 0)", () -> group.exponent(k, 0));
-        }
-        dueCounts("after refused calls", group, -47, 5, 1, 0, 5, 5);
     }
 }
