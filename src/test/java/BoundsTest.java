@@ -10,30 +10,31 @@ public final class BoundsTest {
     private static final int[] CHOSEN = {-4, -3, -15, -47, -84, -420, -1036031, -1004640, 5, 12, 229, 1020, 767449};
 
     public static void main(String[] args) {
-        newObject();
-        take();
-        cannotBeTaken();
-        count();
-        anotherWhat();
-        name();
-        nameOfNoClass();
-        nameOfAnotherWhat();
-        classOf();
-        noneOfDs();
-        coefficients();
-        coefficientsOutside();
-        product();
-        inverse();
-        power();
-        order();
-        generator();
-        exponent();
-        exponentOfNoGenerator();
+        Check.sentence("promise 1: D is -4", BoundsTest::newObject);
+        Check.sentence("promise 2: D becomes d: how many classes there are", BoundsTest::take);
+        Check.sentence("promise 2: IllegalArgumentException: it can't be taken", BoundsTest::cannotBeTaken);
+        Check.sentence("promise 3: 0: D; 1: how many classes; .. 5: how many reduced forms all classes have",
+                BoundsTest::count);
+        Check.sentence("promise 3: -1 for another what", BoundsTest::anotherWhat);
+        Check.sentence("promise 4: Coefficient what (0 a, 1 b, 2 c) of the name of class k", BoundsTest::name);
+        Check.sentence("promise 4: IndexOutOfBoundsException: there is no such class", BoundsTest::nameOfNoClass);
+        Check.sentence("promise 4: IndexOutOfBoundsException: or another what", BoundsTest::nameOfAnotherWhat);
+        Check.sentence("promise 5: The number of the class of a form", BoundsTest::classOf);
+        Check.sentence("promise 5: IllegalArgumentException: it is none of D's", BoundsTest::noneOfDs);
+        Check.sentence("promise 5: a coefficient from -1073741824 to 1073741824", BoundsTest::coefficients);
+        Check.sentence("promise 5: IllegalArgumentException: or a coefficient isn't from -1073741824 to 1073741824",
+                BoundsTest::coefficientsOutside);
+        Check.sentence("promise 6: IndexOutOfBoundsException: there is no such class", BoundsTest::product);
+        Check.sentence("promise 7: IndexOutOfBoundsException: there is no such class", BoundsTest::inverse);
+        Check.sentence("promise 8: IndexOutOfBoundsException: there is no such class", BoundsTest::power);
+        Check.sentence("promise 9: IndexOutOfBoundsException: there is no such class", BoundsTest::order);
+        Check.sentence("promise 10: IndexOutOfBoundsException: there is none", BoundsTest::generator);
+        Check.sentence("promise 11: IndexOutOfBoundsException: there is no such class", BoundsTest::exponent);
+        Check.sentence("promise 11: IndexOutOfBoundsException: or generator", BoundsTest::exponentOfNoGenerator);
         Check.end();
     }
 
     private static void newObject() {
-        Check.sentence("promise 1: D is -4");
         int[] counts = {-4, 1, 0, 0, 1, 1};
         for (int what = 0; what < counts.length; what++) {
             Check.due("count(" + what + ") as the first call", counts[what], new ClassGroup().count(what));
@@ -56,7 +57,6 @@ public final class BoundsTest {
     }
 
     private static void take() {
-        Check.sentence("promise 2: D becomes d: how many classes there are");
         int[][] rows = {
             {-1048576, 256}, {-1048575, 864}, {-1036031, 1908}, {-4, 1}, {-3, 1}, {-15, 2},
             {5, 1}, {8, 1}, {12, 2}, {767449, 392}, {1048572, 96}, {1048573, 1}
@@ -72,7 +72,6 @@ public final class BoundsTest {
     }
 
     private static void cannotBeTaken() {
-        Check.sentence("promise 2: IllegalArgumentException: it can't be taken");
         for (int d : Refusals.DISCRIMINANTS) {
             Check.illegal("take(" + d + ")", () -> new ClassGroup().take(d));
             Check.illegal("take(" + d + ") after another", () -> taken(229).take(d));
@@ -80,7 +79,6 @@ public final class BoundsTest {
     }
 
     private static void count() {
-        Check.sentence("promise 3: 0: D; 1: how many classes; .. 5: how many reduced forms all classes have");
         int[][] rows = {
             {-4, 1, 0, 0, 1, 1}, {-3, 1, 0, 0, 1, 1}, {-47, 5, 1, 0, 5, 5}, {-84, 4, 2, 0, 2, 4},
             {5, 1, 0, 0, 1, 2}, {12, 2, 1, 0, 2, 4}, {28, 2, 1, 0, 2, 8}, {229, 3, 1, 2, 3, 14},
@@ -94,7 +92,6 @@ public final class BoundsTest {
     }
 
     private static void anotherWhat() {
-        Check.sentence("promise 3: -1 for another what");
         for (int d : CHOSEN) {
             for (int what : new int[] {-1, -2, 6, 7, 256, 65536, LEAST_INT, LEAST_INT + 1, GREATEST_INT}) {
                 Check.due(d + ": count(" + what + ")", -1, taken(d).count(what));
@@ -104,7 +101,6 @@ public final class BoundsTest {
     }
 
     private static void name() {
-        Check.sentence("promise 4: Coefficient what (0 a, 1 b, 2 c) of the name of class k");
         int[][] rows = {
             {-4, 0, 1, 0, 1}, {-47, 0, 1, 1, 12}, {-47, 4, 3, 1, 4}, {-84, 3, 5, 4, 5}, {5, 0, -1, 1, 1},
             {12, 0, -2, 2, 1}, {12, 1, -1, 2, 2}, {-1048576, 0, 1, 0, 262144}, {-1048575, 0, 1, 1, 262144},
@@ -119,7 +115,6 @@ public final class BoundsTest {
     }
 
     private static void nameOfNoClass() {
-        Check.sentence("promise 4: IndexOutOfBoundsException: there is no such class");
         for (int d : CHOSEN) {
             for (int k : insideOf(d)) {
                 for (int what = 0; what < 3; what++) {
@@ -138,7 +133,6 @@ public final class BoundsTest {
     }
 
     private static void nameOfAnotherWhat() {
-        Check.sentence("promise 4: IndexOutOfBoundsException: or another what");
         for (int d : CHOSEN) {
             for (int what : new int[] {-1, -2, 3, 4, LEAST_INT, GREATEST_INT}) {
                 for (int k : insideOf(d)) {
@@ -152,7 +146,6 @@ public final class BoundsTest {
     }
 
     private static void classOf() {
-        Check.sentence("promise 5: The number of the class of a form");
         for (int d : CHOSEN) {
             for (int k : insideOf(d)) {
                 ClassGroup group = taken(d);
@@ -168,7 +161,6 @@ public final class BoundsTest {
     }
 
     private static void noneOfDs() {
-        Check.sentence("promise 5: IllegalArgumentException: it is none of D's");
         int[][] none = {
             {1, 1, 11}, {1, 1, 13}, {1, 0, 12}, {1, 2, 12}, {2, 1, 5}, {2, 1, 7}, {-1, 1, -12}, {-2, 1, -6},
             {0, 1, 12}, {1, 1, 0}, {0, 0, 0}, {0, 0, 12}, {0, -47, 0},
@@ -194,7 +186,6 @@ public final class BoundsTest {
     }
 
     private static void coefficients() {
-        Check.sentence("promise 5: a coefficient from -1073741824 to 1073741824");
         int[][] rows = {
             {-131067, 1073741823, 65535, 1}, {-131071, 1073741824, 65535, 1},
             {131077, 1073741823, 65537, 1}, {131073, 1073741824, 65537, 1},
@@ -219,7 +210,6 @@ public final class BoundsTest {
     }
 
     private static void coefficientsOutside() {
-        Check.sentence("promise 5: IllegalArgumentException: or a coefficient isn't from -1073741824 to 1073741824");
         // Forms of D, but for the coefficient that lies outside.
         int[][] rows = {
             {-4, 1073741825, 65536, 1}, {131069, 1073741825, 65537, 1}, {131069, -1073741825, 65537, -1},
@@ -236,7 +226,6 @@ public final class BoundsTest {
     }
 
     private static void product() {
-        Check.sentence("promise 6: IndexOutOfBoundsException: there is no such class");
         for (int d : CHOSEN) {
             int classes = taken(d).count(1);
             for (int j : insideOf(d)) {
@@ -257,7 +246,6 @@ public final class BoundsTest {
     }
 
     private static void inverse() {
-        Check.sentence("promise 7: IndexOutOfBoundsException: there is no such class");
         for (int d : CHOSEN) {
             int classes = taken(d).count(1);
             for (int k : insideOf(d)) {
@@ -270,7 +258,6 @@ public final class BoundsTest {
     }
 
     private static void power() {
-        Check.sentence("promise 8: IndexOutOfBoundsException: there is no such class");
         for (int d : CHOSEN) {
             int classes = taken(d).count(1);
             for (int n : new int[] {0, 1, -1, 2, LEAST_INT, GREATEST_INT}) {
@@ -285,7 +272,6 @@ public final class BoundsTest {
     }
 
     private static void order() {
-        Check.sentence("promise 9: IndexOutOfBoundsException: there is no such class");
         for (int d : CHOSEN) {
             int greatest = taken(d).count(4);
             for (int k : insideOf(d)) {
@@ -298,7 +284,6 @@ public final class BoundsTest {
     }
 
     private static void generator() {
-        Check.sentence("promise 10: IndexOutOfBoundsException: there is none");
         for (int d : CHOSEN) {
             int classes = taken(d).count(1);
             int generators = taken(d).count(2);
@@ -313,7 +298,6 @@ public final class BoundsTest {
     }
 
     private static void exponent() {
-        Check.sentence("promise 11: IndexOutOfBoundsException: there is no such class");
         for (int d : CHOSEN) {
             for (int i = 0; i < taken(d).count(2); i++) {
                 int there = i;
@@ -329,7 +313,6 @@ public final class BoundsTest {
     }
 
     private static void exponentOfNoGenerator() {
-        Check.sentence("promise 11: IndexOutOfBoundsException: or generator");
         for (int d : CHOSEN) {
             for (int i : outsideOf(taken(d).count(2), taken(d).count(1))) {
                 for (int k : insideOf(d)) {

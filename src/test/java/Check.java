@@ -8,21 +8,28 @@ final class Check {
         long run();
     }
 
-    private static final int MOST_PRINTED = 50;
+    private static final int MOST_PRINTED = 1000;
 
     private static int compared = 0;
-    private static int comparedBefore = 0;
     private static String sentence = "";
     private static final List<String> wrong = new ArrayList<>();
 
     private Check() {
     }
 
-    /** What follows looks at these words of the document; a wrong answer is printed with them. */
-    static void sentence(String words) {
-        closeSentence();
+    /** A test that looks at these words of the document: what goes wrong in it is printed with them. */
+    static void sentence(String words, Runnable test) {
         sentence = words;
-        comparedBefore = compared;
+        int before = compared;
+        try {
+            test.run();
+        } catch (RuntimeException e) {
+            tell("ended by " + e);
+        }
+        if (compared == before) {
+            tell("nothing was compared");
+        }
+        sentence = "";
     }
 
     static void due(String call, long want, long got) {
@@ -60,20 +67,12 @@ final class Check {
     }
 
     static void end() {
-        closeSentence();
         for (int i = 0; i < wrong.size() && i < MOST_PRINTED; i++) {
             System.out.println(wrong.get(i));
         }
         System.out.println(compared + " answers compared, " + wrong.size() + " wrong");
         if (!wrong.isEmpty() || compared == 0) {
             System.exit(1);
-        }
-    }
-
-    /** A sentence whose test compared nothing has no test. */
-    private static void closeSentence() {
-        if (!sentence.isEmpty() && compared == comparedBefore) {
-            tell("nothing was compared");
         }
     }
 

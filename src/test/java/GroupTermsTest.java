@@ -12,25 +12,27 @@ public final class GroupTermsTest {
     };
 
     public static void main(String[] args) {
-        greatestNumber();
-        sameForAllForms();
-        inverse();
-        powerOfZero();
-        powersBelowZero();
-        powersRoundTheOrder();
-        leastAboveZero();
-        greatestOrder();
-        firstOfThese();
-        notPrincipal();
-        noPowerMade();
-        asLongAsThereAre();
-        fromZeroToOneLess();
-        inOneWay();
+        Check.sentence("let e be the greatest number that goes into a1, a2 and (b1 + b2) / 2",
+                GroupTermsTest::greatestNumber);
+        Check.sentence("It is the same for all forms of the two, and all such b", GroupTermsTest::sameForAllForms);
+        Check.sentence("The INVERSE of a class is the one with which its product is the principal class",
+                GroupTermsTest::inverse);
+        Check.sentence("POWERS: the principal class for 0", GroupTermsTest::powerOfZero);
+        Check.sentence("POWERS: for n below 0, its inverse -n times", GroupTermsTest::powersBelowZero);
+        Check.sentence("POWERS: n times a class as a factor", GroupTermsTest::powersRoundTheOrder);
+        Check.sentence("The ORDER of a class is the least n above 0", GroupTermsTest::leastAboveZero);
+        Check.sentence("GENERATORS: each is the class of the greatest order", GroupTermsTest::greatestOrder);
+        Check.sentence("GENERATORS: of these the first", GroupTermsTest::firstOfThese);
+        Check.sentence("GENERATORS: among those that aren't principal", GroupTermsTest::notPrincipal);
+        Check.sentence("GENERATORS: no power but the principal class is a product of powers of those before",
+                GroupTermsTest::noPowerMade);
+        Check.sentence("GENERATORS: as long as there are such", GroupTermsTest::asLongAsThereAre);
+        Check.sentence("EXPONENTS from 0 to one less than their orders", GroupTermsTest::fromZeroToOneLess);
+        Check.sentence("Each class is a product of powers of them, in one way", GroupTermsTest::inOneWay);
         Check.end();
     }
 
     private static void greatestNumber() {
-        Check.sentence("let e be the greatest number that goes into a1, a2 and (b1 + b2) / 2");
         // By hand, D = -47: e = 1 for (2, 1, 6) twice, and 2 for (2, 1, 6) and (2, -1, 6), where b1 + b2 = 0.
         Check.due("-47: product(2, 2)", 3, taken(-47).product(2, 2));
         Check.due("-47: product(2, 1)", 0, taken(-47).product(2, 1));
@@ -55,7 +57,6 @@ public final class GroupTermsTest {
     }
 
     private static void sameForAllForms() {
-        Check.sentence("It is the same for all forms of the two, and all such b");
         for (int d : new int[] {-23, -47, -84, -87, -96, 12, 28, 60, 136, 229}) {
             Oracle oracle = new Oracle(d);
             Renewed group = new Renewed(d);
@@ -71,7 +72,6 @@ public final class GroupTermsTest {
     }
 
     private static void inverse() {
-        Check.sentence("The INVERSE of a class is the one with which its product is the principal class");
         int[] of47 = {0, 2, 1, 4, 3};
         for (int k = 0; k < 5; k++) {
             Check.due("-47: inverse(" + k + ")", of47[k], taken(-47).inverse(k));
@@ -93,7 +93,6 @@ public final class GroupTermsTest {
     }
 
     private static void powerOfZero() {
-        Check.sentence("POWERS: the principal class for 0");
         Check.due("229: power(0, 0)", 2, taken(229).power(0, 0));
         for (int d : CHOSEN) {
             Renewed group = new Renewed(d);
@@ -106,7 +105,6 @@ public final class GroupTermsTest {
     }
 
     private static void powersBelowZero() {
-        Check.sentence("POWERS: for n below 0, its inverse -n times");
         int[] of47 = {0, 1, 4, 3, 2};
         for (int n : new int[] {-1, -2, -3, -4, -5, -6, -1073741824, LEAST_INT, LEAST_INT + 1, LEAST_INT + 2}) {
             Check.due("-47: power(1, " + n + ")", of47[Math.floorMod(n, 5)], taken(-47).power(1, n));
@@ -125,7 +123,6 @@ public final class GroupTermsTest {
     }
 
     private static void powersRoundTheOrder() {
-        Check.sentence("POWERS: n times a class as a factor");
         for (int d : CHOSEN) {
             Oracle oracle = new Oracle(d);
             Renewed group = new Renewed(d);
@@ -143,7 +140,6 @@ public final class GroupTermsTest {
     }
 
     private static void leastAboveZero() {
-        Check.sentence("The ORDER of a class is the least n above 0");
         for (int d : CHOSEN) {
             Renewed group = new Renewed(d);
             int principal = group.now().count(3);
@@ -161,7 +157,6 @@ public final class GroupTermsTest {
     }
 
     private static void greatestOrder() {
-        Check.sentence("GENERATORS: each is the class of the greatest order");
         // -3299: 9 and 3; class 7 is of order 3, and no class of order 9 is free of generator 0.
         Check.due("-3299: generator(0)", 1, taken(-3299).generator(0));
         Check.due("-3299: order(1)", 9, taken(-3299).order(1));
@@ -179,7 +174,6 @@ public final class GroupTermsTest {
     }
 
     private static void firstOfThese() {
-        Check.sentence("GENERATORS: of these the first");
         // All but the principal class have the same order: 5, 3, 2 and 2.
         Check.due("-47: generator(0)", 1, taken(-47).generator(0));
         Check.due("229: generator(0)", 0, taken(229).generator(0));
@@ -199,7 +193,6 @@ public final class GroupTermsTest {
     }
 
     private static void notPrincipal() {
-        Check.sentence("GENERATORS: among those that aren't principal");
         for (int d : new int[] {-3, -4, -7, -8, -11, -12, -27, -28, -163, 5, 8, 13, 20, 1048573}) {
             Check.due(d + ": count(1)", 1, taken(d).count(1));
             Check.due(d + ": count(2)", 0, taken(d).count(2));
@@ -215,7 +208,6 @@ public final class GroupTermsTest {
     }
 
     private static void noPowerMade() {
-        Check.sentence("GENERATORS: no power but the principal class is a product of powers of those before");
         // Classes 5 and 6 have order 4 too, and generator 0 does not make them, but it makes their squares.
         int[] of1056 = {3, 1, 7};
         for (int i = 0; i < 3; i++) {
@@ -230,7 +222,6 @@ public final class GroupTermsTest {
     }
 
     private static void asLongAsThereAre() {
-        Check.sentence("GENERATORS: as long as there are such");
         int[][] rows = {
             {-4, 0}, {-15, 1}, {-47, 1}, {-84, 2}, {-420, 3}, {-5460, 4}, {-1004640, 6}, {-1036031, 1},
             {5, 0}, {12, 1}, {229, 1}, {1020, 3}, {1021020, 6}, {1048573, 0}
@@ -248,7 +239,6 @@ public final class GroupTermsTest {
     }
 
     private static void fromZeroToOneLess() {
-        Check.sentence("EXPONENTS from 0 to one less than their orders");
         for (int d : new int[] {-15, -47, -84, -420, -1056, -3299, -5460, 12, 60, 229, 1020, -1004640, -1036031}) {
             Renewed group = new Renewed(d);
             int generators = group.now().count(2);
@@ -268,7 +258,6 @@ public final class GroupTermsTest {
     }
 
     private static void inOneWay() {
-        Check.sentence("Each class is a product of powers of them, in one way");
         for (int d : CHOSEN) {
             Renewed group = new Renewed(d);
             for (int k = 0; k < group.now().count(1); k++) {

@@ -15,24 +15,26 @@ public final class StateTest {
 
     private static final Map<Integer, List<String>> DUE = new HashMap<>();
 
-    public static void main(String[] args) throws IllegalAccessException {
+    public static void main(String[] args) {
         for (int d : FEW_CLASSES) {
             DUE.put(d, Answers.due(new Oracle(d)));
         }
-        lastCall();
-        lastOfManyTakes();
-        lastOfManyRefused();
-        ownMemory();
-        madeOnce();
-        nothingChanges();
-        nothingChangesAtFirst();
-        takenAnew();
-        takenTwice();
+        Check.sentence("at most 512 calls after it has been made: each kind of call as the last one",
+                StateTest::lastCall);
+        Check.sentence("at most 512 calls after it has been made: another D with each", StateTest::lastOfManyTakes);
+        Check.sentence("at most 512 calls after it has been made: refused ones are calls too",
+                StateTest::lastOfManyRefused);
+        Check.sentence("All memory is its own", StateTest::ownMemory);
+        Check.sentence("All memory is .. made once", StateTest::madeOnce);
+        Check.sentence("nothing changes: after a refused call the answers that stood before it",
+                StateTest::nothingChanges);
+        Check.sentence("nothing changes: a refused call as the first one", StateTest::nothingChangesAtFirst);
+        Check.sentence("D becomes d: taken anew after others", StateTest::takenAnew);
+        Check.sentence("D becomes d: the same D once more", StateTest::takenTwice);
         Check.end();
     }
 
     private static void lastCall() {
-        Check.sentence("at most 512 calls after it has been made: each kind of call as the last one");
         for (int last = 0; last < 10; last++) {
             ClassGroup group = new ClassGroup();
             group.take(-3299);
@@ -83,7 +85,6 @@ public final class StateTest {
     }
 
     private static void lastOfManyTakes() {
-        Check.sentence("at most 512 calls after it has been made: another D with each");
         ClassGroup group = new ClassGroup();
         for (int n = 0; n < CALLS / 2; n++) {
             int d = OTHERS[n % OTHERS.length];
@@ -98,7 +99,6 @@ public final class StateTest {
     }
 
     private static void lastOfManyRefused() {
-        Check.sentence("at most 512 calls after it has been made: refused ones are calls too");
         ClassGroup group = new ClassGroup();
         group.take(-47);
         Check.Call[] calls = Refusals.illegal(group).values().toArray(new Check.Call[0]);
@@ -108,8 +108,7 @@ public final class StateTest {
         Check.due("exponent(2, 0) as the last call", 4, group.exponent(2, 0));
     }
 
-    private static void ownMemory() throws IllegalAccessException {
-        Check.sentence("All memory is its own");
+    private static void ownMemory() {
         ClassGroup[] groups = new ClassGroup[FEW_CLASSES.length];
         for (int i = 0; i < groups.length; i++) {
             groups[i] = new ClassGroup();
@@ -124,14 +123,22 @@ public final class StateTest {
         }
         for (Field field : ClassGroup.class.getDeclaredFields()) {
             if (!Modifier.isStatic(field.getModifiers()) && !field.getType().isPrimitive()) {
-                field.setAccessible(true);
-                Check.holds("two objects have two of " + field, field.get(groups[0]) != field.get(groups[1]));
+                Check.holds("two objects have two of " + field,
+                        valueOf(field, groups[0]) != valueOf(field, groups[1]));
             }
         }
     }
 
+    private static Object valueOf(Field field, ClassGroup group) {
+        try {
+            field.setAccessible(true);
+            return field.get(group);
+        } catch (IllegalAccessException e) {
+            throw new IllegalStateException(e);
+        }
+    }
+
     private static void madeOnce() {
-        Check.sentence("All memory is .. made once");
         for (Field field : ClassGroup.class.getDeclaredFields()) {
             Check.holds("a row is made once: " + field,
                     field.getType().isPrimitive() || Modifier.isFinal(field.getModifiers()));
@@ -169,7 +176,6 @@ public final class StateTest {
     }
 
     private static void nothingChanges() {
-        Check.sentence("nothing changes: after a refused call the answers that stood before it");
         for (int d : FEW_CLASSES) {
             ClassGroup model = taken(d);
             int classes = model.count(1);
@@ -192,7 +198,6 @@ public final class StateTest {
     }
 
     private static void nothingChangesAtFirst() {
-        Check.sentence("nothing changes: a refused call as the first one");
         for (String call : Refusals.illegal(new ClassGroup()).keySet()) {
             ClassGroup group = new ClassGroup();
             Check.illegal(call, Refusals.illegal(group).get(call));
@@ -206,24 +211,26 @@ public final class StateTest {
     }
 
     private static void takenAnew() {
-        Check.sentence("D becomes d: taken anew after others");
         for (int d : FEW_CLASSES) {
             for (int other : OTHERS) {
                 for (boolean asked : new boolean[] {false, true}) {
                     ClassGroup group = asked ? askedAll(d) : taken(d);
                     group.take(other);
-                    if (asked) {
-                        group.count(2);
-                    }
-                    Check.due(d + " after " + other, taken(d).count(1), group.take(d));
-                    Answers.compare(d + " after " + other, DUE.get(d), group);
+                    takenAfter(other, d, group);
                 }
+                ClassGroup group = taken(other);
+                group.count(2);
+                takenAfter(other, d, group);
             }
         }
     }
 
+    private static void takenAfter(int other, int d, ClassGroup group) {
+        Check.due(d + " after " + other, taken(d).count(1), group.take(d));
+        Answers.compare(d + " after " + other, DUE.get(d), group);
+    }
+
     private static void takenTwice() {
-        Check.sentence("D becomes d: the same D once more");
         for (int d : FEW_CLASSES) {
             ClassGroup group = askedAll(d);
             Check.due("take(" + d + ") once more", taken(d).count(1), group.take(d));

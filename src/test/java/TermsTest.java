@@ -4,26 +4,25 @@
  */
 public final class TermsTest {
     public static void main(String[] args) {
-        primitive();
-        someFormsD();
-        noSquare();
-        fromTo();
-        aAboveZero();
-        properClasses();
-        reducedBelowZero();
-        noReducedFormBesidesBelowZero();
-        reducedAboveZero();
-        noReducedFormBesidesAboveZero();
-        leastA();
-        leastB();
-        numbersFromZeroOn();
-        orderOfNames();
-        principal();
+        Check.sentence("PRIMITIVE if no number above 1 goes into a, b and c", TermsTest::primitive);
+        Check.sentence("D can be taken if it is some form's", TermsTest::someFormsD);
+        Check.sentence("no square", TermsTest::noSquare);
+        Check.sentence("from -1048576 to 1048576", TermsTest::fromTo);
+        Check.sentence("and a above 0 if D is below 0", TermsTest::aAboveZero);
+        Check.sentence("p s - q r = 1", TermsTest::properClasses);
+        Check.sentence("|b| <= a <= c, and b is not below 0 if |b| = a or a = c", TermsTest::reducedBelowZero);
+        Check.sentence("D below 0: how many forms are reduced", TermsTest::noReducedFormBesidesBelowZero);
+        Check.sentence("0 < b < R and R - b < 2 |a| < R + b", TermsTest::reducedAboveZero);
+        Check.sentence("D above 0: how many forms are reduced", TermsTest::noReducedFormBesidesAboveZero);
+        Check.sentence("the reduced form in it with the least a", TermsTest::leastA);
+        Check.sentence("of these that with the least b", TermsTest::leastB);
+        Check.sentence("CLASSES have numbers from 0 on", TermsTest::numbersFromZeroOn);
+        Check.sentence("in the order of their names (by a, then by b)", TermsTest::orderOfNames);
+        Check.sentence("The PRINCIPAL class is that of (1, 0, -D / 4) or (1, 1, (1 - D) / 4)", TermsTest::principal);
         Check.end();
     }
 
     private static void primitive() {
-        Check.sentence("PRIMITIVE if no number above 1 goes into a, b and c");
         // Some number above 1 goes into any two of 6, 10 and 15, none into all three.
         Check.due("-260: (6, 10, 15) is like (6, -2, 11)", taken(-260).classOf(6, -2, 11),
                 taken(-260).classOf(6, 10, 15));
@@ -43,7 +42,6 @@ public final class TermsTest {
     }
 
     private static void someFormsD() {
-        Check.sentence("D can be taken if it is some form's");
         for (int d : new int[] {-3, -4, -7, -8, -11, -12, -1048575, 5, 8, 12, 13, 17, 20, 1048572, 1048573}) {
             takes(d);
         }
@@ -55,7 +53,6 @@ public final class TermsTest {
     }
 
     private static void noSquare() {
-        Check.sentence("no square");
         for (int r = 0; r <= 1024; r++) {
             refuses(r * r);
         }
@@ -79,7 +76,6 @@ public final class TermsTest {
     }
 
     private static void fromTo() {
-        Check.sentence("from -1048576 to 1048576");
         takes(-1048576);
         takes(-1048575);
         takes(1048573);
@@ -97,7 +93,6 @@ public final class TermsTest {
     }
 
     private static void aAboveZero() {
-        Check.sentence("and a above 0 if D is below 0");
         Check.due("-47: classOf(1, 1, 12)", 0, taken(-47).classOf(1, 1, 12));
         refusesForm(-47, -1, 1, -12);
         refusesForm(-47, -1, -1, -12);
@@ -110,7 +105,6 @@ public final class TermsTest {
     }
 
     private static void properClasses() {
-        Check.sentence("p s - q r = 1");
         int[][] matrices = {
             {1, 0, 0, 1}, {-1, 0, 0, -1}, {0, -1, 1, 0}, {0, 1, -1, 0}, {1, 1, 0, 1}, {1, 0, -1, 1}, {2, 1, 1, 1},
             {3, -5, -4, 7}, {100, 99, 101, 100}, {-41, 29, 24, -17}
@@ -136,7 +130,6 @@ public final class TermsTest {
     }
 
     private static void reducedBelowZero() {
-        Check.sentence("|b| <= a <= c, and b is not below 0 if |b| = a or a = c");
         for (int a = 1; a <= 24; a++) {
             for (int c = a; c <= a + 6; c++) {
                 for (int b = Math.max(0, a - 4); b <= a; b++) {
@@ -179,7 +172,6 @@ public final class TermsTest {
     }
 
     private static void noReducedFormBesidesBelowZero() {
-        Check.sentence("D below 0: how many forms are reduced");
         for (int d = -3; d >= -900; d--) {
             if (Oracle.canBeTaken(d)) {
                 int reduced = reducedFormsBelowZero(d);
@@ -206,7 +198,6 @@ public final class TermsTest {
     }
 
     private static void reducedAboveZero() {
-        Check.sentence("0 < b < R and R - b < 2 |a| < R + b");
         // By hand: 2 |a| just above and just below R - b, just below and just above R + b.
         Check.due("5: R - 1 < 2 < R + 1", 2, taken(5).count(5));
         Check.due("8: R - 2 < 2 < R + 2; b = 0 is not above 0", 2, taken(8).count(5));
@@ -225,10 +216,27 @@ public final class TermsTest {
             ClassGroup below = taken(r * r - 4);
             dueName(below, below.classOf(1, r - 2, 2 - r), 2 - r, r - 2, 1);
         }
+        for (int d : new int[] {5, 8, 12, 13, 21, 24, 28, 60, 101, 136, 229, 401, 580, 1020}) {
+            compareFormsBesideTheBounds(d);
+        }
+    }
+
+    /** A form just outside, taken for a reduced one, would be named itself or stand in no class. */
+    private static void compareFormsBesideTheBounds(int d) {
+        Oracle oracle = new Oracle(d);
+        Renewed group = new Renewed(d);
+        for (long[] f : oracle.forms) {
+            int k = group.now().classOf((int) f[0], (int) f[1], (int) f[2]);
+            Check.due(d + ": classOf(" + f[0] + ", " + f[1] + ", " + f[2] + ")",
+                    oracle.classOf(f[0], f[1], f[2]), k);
+            if (!isReducedAboveZero(d, (int) f[0], (int) f[1])) {
+                Check.holds(d + ": (" + f[0] + ", " + f[1] + ", " + f[2] + ") is no name",
+                        group.now().name(k, 0) != f[0] || group.now().name(k, 1) != f[1]);
+            }
+        }
     }
 
     private static void noReducedFormBesidesAboveZero() {
-        Check.sentence("D above 0: how many forms are reduced");
         for (int d = 5; d <= 1200; d++) {
             if (Oracle.canBeTaken(d)) {
                 compareReducedForms(d);
@@ -273,7 +281,6 @@ public final class TermsTest {
     }
 
     private static void leastA() {
-        Check.sentence("the reduced form in it with the least a");
         // All reduced forms, by hand: of 5 (-1, 1, 1) and (1, 1, -1); of 12 (-2, 2, 1) and (1, 2, -2) in one
         // class, (-1, 2, 2) and (2, 2, -1) in the other.
         dueName(taken(5), 0, -1, 1, 1);
@@ -284,7 +291,6 @@ public final class TermsTest {
     }
 
     private static void leastB() {
-        Check.sentence("of these that with the least b");
         // By hand: one class of 28 has (-3, 2, 2), (2, 2, -3), (-3, 4, 1) and (1, 4, -3).
         dueName(taken(28), 0, -3, 2, 2);
         dueName(taken(28), 1, -2, 2, 3);
@@ -295,7 +301,6 @@ public final class TermsTest {
     }
 
     private static void numbersFromZeroOn() {
-        Check.sentence("CLASSES have numbers from 0 on");
         for (int d : new int[] {-4, -47, 5, 12, 229, -1036031, 767449}) {
             int classes = taken(d).count(1);
             Check.holds(d + ": name(0, 0)", taken(d).name(0, 0) != 0);
@@ -306,7 +311,6 @@ public final class TermsTest {
     }
 
     private static void orderOfNames() {
-        Check.sentence("in the order of their names (by a, then by b)");
         int[][] names = {{1, 1, 12}, {2, -1, 6}, {2, 1, 6}, {3, -1, 4}, {3, 1, 4}};
         for (int k = 0; k < names.length; k++) {
             dueName(taken(-47), k, names[k]);
@@ -325,7 +329,6 @@ public final class TermsTest {
     }
 
     private static void principal() {
-        Check.sentence("The PRINCIPAL class is that of (1, 0, -D / 4) or (1, 1, (1 - D) / 4)");
         int[][] rows = {
             {-3, 0}, {-4, 0}, {-7, 0}, {-8, 0}, {-47, 0}, {-84, 0}, {-1048576, 0}, {-1048575, 0},
             {5, 0}, {8, 0}, {12, 0}, {28, 0}, {229, 2}
