@@ -1,8 +1,13 @@
+import java.io.IOException;
 import java.lang.reflect.Constructor;
 import java.lang.reflect.Field;
 import java.lang.reflect.Method;
 import java.lang.reflect.Modifier;
+import java.nio.file.Files;
+import java.nio.file.Path;
+import java.util.ArrayList;
 import java.util.Arrays;
+import java.util.List;
 import java.util.Map;
 import java.util.TreeMap;
 import java.util.TreeSet;
@@ -26,10 +31,11 @@ public final class FaceTest {
         {"exponent", "2", NO_CLASS}
     };
 
-    public static void main(String[] args) {
+    public static void main(String[] args) throws IOException {
         Check.due("modifiers of the class", Modifier.PUBLIC | Modifier.FINAL, ClassGroup.class.getModifiers());
         constructors();
         methods();
+        headsAsWritten();
         for (Field field : ClassGroup.class.getDeclaredFields()) {
             Check.holds("private: " + field, Modifier.isPrivate(field.getModifiers()));
             Check.holds("no static state: " + field,
@@ -68,6 +74,24 @@ public final class FaceTest {
                 sameHead(method, Integer.parseInt(row[1]), row[2]);
             }
         }
+    }
+
+    /** Word for word, the names of the parameters too. */
+    private static void headsAsWritten() throws IOException {
+        List<String> due = heads(Path.of("../shared/DOC.md"), ";");
+        List<String> written = heads(Path.of("src/main/java/ClassGroup.java"), " {");
+        Check.due("heads of the document", FACE.length + 1, due.size());
+        Check.holds("the heads " + written + " are the document's, in its order", written.equals(due));
+    }
+
+    private static List<String> heads(Path file, String end) throws IOException {
+        List<String> found = new ArrayList<>();
+        for (String line : Files.readAllLines(file)) {
+            if (line.startsWith("    public ") && line.endsWith(end)) {
+                found.add(line.substring(0, line.length() - end.length()).trim());
+            }
+        }
+        return found;
     }
 
     private static boolean isOfTheFace(String name) {
